@@ -1113,8 +1113,8 @@ public final class PutOn {
                     continue;
                 }
                 for (int room = 0; room < MOST_ROOMS; room++) {
-                    for (int c = 0; c < house.clockCount; c++) {
-                        if (comesTo(d, room, c)) {
+                    for (int c = 0; c < house.clockCount && house.doers[d].goesTo(room); c++) {
+                        if (house.clocks[c].room == room && house.clocks[c].self == 0) {
                             visit(world, d, ahead, c);
                         }
                     }
@@ -1129,11 +1129,6 @@ public final class PutOn {
                 at[world][c] = clock.off + (clock.self == 1 ? HOUR : 0);
                 done[world][c] = clock.self;
             }
-        }
-
-        private boolean comesTo(int d, int room, int c) {
-            Clock clock = house.clocks[c];
-            return house.doers[d].goesTo(room) && clock.room == room && clock.self == 0;
         }
 
         private void visit(int world, int d, int ahead, int c) {

@@ -153,6 +153,9 @@ public final class GoodBadTest {
         // the second never comes
         DUE.is("late(1), of those that have a CHANCE", p.late(1), 20);
         DUE.is("late(0), of those that have a CHANCE", p.late(0), 60);
+        Due.text(p, "came 1;adds 60;minds 1;");
+        p.force(2);
+        DUE.is("late(1), of those that have a CHANCE of 1", p.late(1), 80);
         p.force(0);
         p.set(3, 0, 100);
         p.set(3, 1, 60);

@@ -3,6 +3,7 @@ public final class KnownTest {
     private static final Due DUE = new Due("KnownTest");
 
     public static void main(String[] args) {
+        allThereCanBe();
         oddsAreTold();
         timeIsTold();
         timesTogether();
@@ -33,6 +34,56 @@ public final class KnownTest {
         Due.text(p, "came 20 + who*50;adds 60;minds 1;");
         p.force(1);
         return p;
+    }
+
+    // six clocks and five doers: in each ROOM one clock; each doer has a ROOM of his own; the last ROOM is nobody's
+    private static void allThereCanBe() {
+        PutOn p = new PutOn();
+        for (int c = 0; c < 6; c++) {
+            p.clock(10 * c, 0);
+        }
+        for (int d = 0; d < 5; d++) {
+            p.doer(0, 0, 1 << d);
+        }
+        DUE.is("fewest", p.fewest(), 32);
+        DUE.is("ask", p.ask(), 0);
+        DUE.is("say", p.say(0), 31);
+        odds(p, 4, 1, 2);
+        odds(p, 5, 0, 1);
+        DUE.is("bad(0)", p.bad(0), 7);
+        DUE.is("bad(1)", p.bad(1), 2);
+        DUE.is("late", p.late(5), 60);
+        DUE.is("ALL", p.world(-1), 10000000000L);
+        DUE.is("the last WORLD", p.world(31), 312500000);
+        DUE.is("one behind the last", p.world(32), PutOn.NO);
+        p.sheet(0, 0, 6);
+        DUE.is("none RIGHT", p.tellsBack(0, 0), 1);
+        DUE.is("none RIGHT, in which", p.tellsBack(0, 1), 0);
+        DUE.is("film", p.film(0, 31), 6);
+        DUE.is("RIGHT as in the last WORLD", p.tellsBack(0, 2), 31);
+        p.set(3, 5, 60);
+        DUE.is("time(0)", p.time(0), 120);
+        DUE.is("time(1)", p.time(1), 1);
+        sure(p, 1, 1);
+        DUE.is("look", p.look(), 0);
+        p.set(3, 0, 60);
+        DUE.is("look, the first known", p.look(), 1);
+        DUE.is("ask, the first known", p.ask(), 1);
+        // as many doers less: what was worked out for the others is no more
+        PutOn q = new PutOn();
+        q.clock(0, 0);
+        q.doer(0, 0, 1);
+        q.image();
+        q.doer(0, 0, 1);
+        DUE.is("late by two", q.late(0), 60);
+        q.doer(0, 0, 1);
+        DUE.is("late by three", q.late(0), 120);
+        q.back();
+        DUE.is("late by one", q.late(0), 60);
+        DUE.is("ALL by one", q.world(-1), 100);
+        DUE.is("fewest by one", q.fewest(), -1);
+        q.set(0, 0, 60);
+        DUE.is("say by one", q.say(0), 0);
     }
 
     private static void oddsAreTold() {
@@ -110,6 +161,10 @@ public final class KnownTest {
         DUE.is("two WORLDS' CHANCES together", p.time(0), 1);
         DUE.is("three TIMES", p.time(1), 3);
         sure(p, 1, 2);
+        Due.text(p, "came 1;adds 60;minds 1;");
+        p.force(1);
+        DUE.is("a TIME of a CHANCE of 1", p.time(1), 3);
+        sure(p, 9801, 10000);
         // of like ones the earliest: 0 and 1380 with a half each
         PutOn q = new PutOn();
         q.clock(0, 60);
@@ -164,6 +219,19 @@ public final class KnownTest {
         // none fits: the first
         p.set(3, 1, 1);
         DUE.is("none fits", p.look(), 2);
+        // the first says the same as the one that was seen whatever was done; the second doesn't
+        PutOn q = new PutOn();
+        q.clock(0, 0);
+        q.clock(0, 5);
+        q.clock(10, 0);
+        q.doer(0, 0, 1);
+        q.set(3, 0, 0);
+        DUE.is("one that stays is less foreseen than one alike put on", q.look(), 2);
+        q.doer(0, 0, 3);
+        DUE.is("still", q.look(), 2);
+        q.set(5, 1, 2);
+        q.set(5, 0, 2);
+        DUE.is("one that is put on, all others alike", q.look(), 2);
     }
 
     private static void fewestTell() {
@@ -210,11 +278,50 @@ public final class KnownTest {
         Due.text(q, "came who*50;adds 60;minds 1;");
         q.force(5);
         DUE.is("the first stays, as none comes there", q.fewest(), 1);
+        fewestOfOneMore();
         // what was seen is no matter
         q.force(3);
         q.set(3, 0, 0);
         q.set(3, 1, 5);
         DUE.is("none fits", q.fewest(), 5);
+    }
+
+    private static void fewestOfOneMore() {
+        PutOn p = new PutOn();
+        p.clock(0, 100);
+        p.clock(10, -7);
+        p.doer(0, 0, 1);
+        p.doer(0, 0, 2);
+        Due.text(p, "came 50;adds 1 + who*2;minds 1;");
+        p.force(1);
+        DUE.is("more by 1, more by 3", p.fewest(), 3);
+        Due.text(p, "came 1;adds 1;minds 1;");
+        p.force(2);
+        DUE.is("both, of a CHANCE of 1", p.fewest(), -1);
+        Due.text(p, "came 50;adds 0-60;minds 1;");
+        p.force(3);
+        DUE.is("put back", p.fewest(), -1);
+        Due.text(p, "came 100;adds 60;minds 1;");
+        p.force(4);
+        DUE.is("of the last WORLD alone", p.fewest(), 1);
+        Due.text(p, "came 50;adds 60 - who*120;minds 1;");
+        p.force(5);
+        // the first alone against the second alone: both 60 more
+        DUE.is("one on, one back", p.fewest(), -1);
+        PutOn q = new PutOn();
+        q.clock(0, 60);
+        q.clock(10, 0);
+        q.clock(20, -60);
+        q.doer(0, 0, 3);
+        q.doer(0, 0, 6);
+        // more by the same are the first two, the last two, the first and the last: never all three
+        DUE.is("all three", q.fewest(), 7);
+        Due.text(q, "came 100 - who*50;adds 60;minds 1;");
+        q.force(1);
+        DUE.is("the first is put on always", q.fewest(), 1);
+        Due.text(q, "came 50 + who*50;adds 60;minds 1;");
+        q.force(2);
+        DUE.is("the third is put on always", q.fewest(), 4);
     }
 
     private static void askSaysWhom() {
@@ -246,5 +353,15 @@ public final class KnownTest {
         DUE.is("the one who isn't known", p.ask(), 2);
         p.set(3, 0, 7);
         DUE.is("none fits", p.ask(), 0);
+        // came with 50 and 51: the one is 50 at most, the other 51
+        PutOn q = new PutOn();
+        q.doer(0, 0, 1);
+        q.doer(0, 0, 1);
+        Due.text(q, "came 51 - who;adds 60;minds 1;");
+        q.force(1);
+        DUE.is("the less sure", q.ask(), 1);
+        Due.text(q, "came 49 + who;adds 60;minds 1;");
+        q.force(2);
+        DUE.is("the less sure, less than half", q.ask(), 1);
     }
 }

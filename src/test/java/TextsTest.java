@@ -71,6 +71,9 @@ public final class TextsTest {
         fault("came;", 4);
         fault("cam 1;", 0);
         fault("camex 1;", 0);
+        fault("camez 1;", 0);
+        fault("dame 1;", 0);
+        fault("came mho;", 5);
         fault("came1x;", 5);
         fault("came x;", 5);
         fault("came Who;", 5);
@@ -100,6 +103,14 @@ public final class TextsTest {
         fault("came 1 or;", 9);
         fault("came 1 or or 2;", 10);
         fault("came 1 and and 2;", 11);
+        fault("came 1 and;", 10);
+        fault("came 1 <;", 8);
+        fault("came 1 =;", 8);
+        fault("came 1 *;", 8);
+        fault("came 1 -;", 8);
+        fault("came -;", 6);
+        fault("came (1 or);", 10);
+        fault("came (1 and);", 11);
         fault("came 1 not 2;", 7);
         fault("came 1 + not 2;", 9);
         fault("came - not 2;", 7);
@@ -166,6 +177,23 @@ public final class TextsTest {
             p.force(i);
             DUE.is("came of text " + i, p.told(0, 7), i);
         }
+        // long ones, one behind the other: each has all the room that a tape has
+        PutOn q = new PutOn();
+        q.clock(0, 0);
+        q.doer(0, 0, 1);
+        for (int i = 1; i <= 5; i++) {
+            StringBuilder text = new StringBuilder("came " + i + ";adds " + i);
+            for (int k = 0; k < 62; k++) {
+                text.append("+1");
+            }
+            DUE.is("long text " + i, Due.text(q, text.append(";minds " + i + ";").toString()), i);
+        }
+        for (int i = 5; i >= 0; i--) {
+            q.force(i);
+            DUE.is("came of long text " + i, q.told(0, 7), i == 0 ? 50 : i);
+            DUE.is("adds of long text " + i, q.at(0, 1, 0), i == 0 ? 60 : 62 + i);
+            DUE.is("minds of long text " + i, q.bad(0) * (i == 0 ? 2 : 1), i == 0 ? 2 : i);
+        }
     }
 
     // what an E is worth, as what adds tells of clock 1 (ROOM 2, OFF 5) to doer 1 (rooms 3)
@@ -194,6 +222,12 @@ public final class TextsTest {
         value("(1 + 2) * 3", 9);
         value("10 - 2 - 3", 5);
         value("10 - (2 - 3)", 11);
+        value("10 - 2 + 3", 11);
+        value("10 + 2 - 3", 9);
+        value("10 - 2 * 3 + 4", 8);
+        value("1 or 0 or 0", 1);
+        value("1 and 1 and 0", 0);
+        value("2 * 3 * 4", 24);
         value("-2 * -3", 6);
         value("--4", 4);
         value("- 2 + 3", 1);

@@ -77,6 +77,17 @@ public final class ToldBackTest {
         tells(p, 2, 6, 4);
         row(p, 0, 0, 0, 0, 0);
         tells(p, 0, -1, 0);
+        // of a CHANCE of 1
+        PutOn q = three();
+        Due.text(q, "came 1 + (who = 2)*98;adds 60;minds 1;");
+        q.force(1);
+        row(q, 0, 0, 1, 1, 0);
+        tells(q, 2, 6, 0);
+        q.set(5, 0, 0);
+        q.set(5, 1, 1);
+        q.set(5, 2, 1);
+        // {second}: 99 * 1 * 1, {third}: 99 * 99 * 99, {first and one of these}
+        tells(q, 4, 4, 0);
         // what was seen is no matter
         p.set(3, 0, 0);
         p.set(3, 1, 1);
@@ -269,7 +280,9 @@ public final class ToldBackTest {
         DUE.is("a new fourth doer", p.doer(1, 1, 1), 3);
         DUE.is("his KIND", p.told(3, 6), 1);
         p.live(7);
+        DUE.is("AT of what was lived", p.at(0, 0, 0), 71);
         DUE.is("back() again", p.back(), 3);
+        DUE.is("AT of what is back", p.at(0, 0, 0), 11);
         DUE.is("OFF again", p.told(0, 0), 11);
         DUE.is("SAW again", p.told(0, 3), 100);
         DUE.is("CLOCKS again", p.count(0), 3);
