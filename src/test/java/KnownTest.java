@@ -308,6 +308,15 @@ public final class KnownTest {
         p.force(5);
         // the first alone against the second alone: both 60 more
         DUE.is("one on, one back", p.fewest(), -1);
+        PutOn r = new PutOn();
+        r.clock(0, 0);
+        r.doer(0, 0, 1);
+        Due.text(r, "came 99;adds 1;minds 1;");
+        r.force(1);
+        DUE.is("not put on, of a CHANCE of 1", r.fewest(), -1);
+        Due.text(r, "came 1;adds 1;minds 1;");
+        r.force(2);
+        DUE.is("put on, of a CHANCE of 1", r.fewest(), -1);
         PutOn q = new PutOn();
         q.clock(0, 60);
         q.clock(10, 0);
@@ -337,19 +346,23 @@ public final class KnownTest {
         p.force(1);
         // 20, 40, 60: 80, 60, 60
         DUE.is("of like ones the first that is least", p.ask(), 1);
-        Due.text(p, "came 30 + who*22;adds 60;minds 1;");
+        Due.text(p, "came 60 - who*20;adds 60;minds 1;");
         p.force(2);
+        // 60, 40, 20: 60, 60, 80
+        DUE.is("of like ones the first, likelier than not", p.ask(), 0);
+        Due.text(p, "came 30 + who*22;adds 60;minds 1;");
+        p.force(3);
         // 30, 52, 74
         DUE.is("the second", p.ask(), 1);
         Due.text(p, "came 95 - who*22;adds 60;minds 1;");
-        p.force(3);
+        p.force(4);
         // 95, 73, 51
         DUE.is("the third", p.ask(), 2);
         // what fits: the clock was put on twice; then the first two are known
         p.clock(51, 0);
         p.set(3, 0, 160);
         p.set(3, 1, 100);
-        p.force(2);
+        p.force(3);
         DUE.is("the one who isn't known", p.ask(), 2);
         p.set(3, 0, 7);
         DUE.is("none fits", p.ask(), 0);
