@@ -1,6 +1,4 @@
-import java.util.ArrayDeque;
 import java.util.Arrays;
-import java.util.Deque;
 import java.util.Random;
 import java.util.TreeMap;
 
@@ -9,9 +7,6 @@ import java.util.TreeMap;
  * (150, if there is none): the same runs each time.
  */
 public final class ModelTest {
-    private static final String[] CALLS = {"clock", "doer", "set", "told", "feed", "text", "force", "at", "right",
-        "world", "odds", "time", "sure", "look", "fewest", "ask", "say", "bad", "late", "live", "tellsBack", "film",
-        "drawn", "chance", "image", "back", "count", "sheet", "cell", "copy", "clocks", "taken"};
     // how often each is drawn
     private static final int[] OFTEN = {5, 5, 12, 8, 6, 2, 6, 10, 10, 8, 8, 6, 6, 8, 8, 8, 6, 8, 8, 3, 8, 4, 6, 6, 2,
         2, 4, 6, 10, 12, 10, 5};
@@ -44,7 +39,7 @@ public final class ModelTest {
             }
         }
         // a test that only ever sees refusals would test little
-        for (String call : CALLS) {
+        for (String call : Calls.ALL) {
             if (answered.getOrDefault(call, 0) < runs / 2) {
                 wrong++;
                 System.out.println("ModelTest: " + call + " was answered " + answered.getOrDefault(call, 0) + " times only");
@@ -70,7 +65,7 @@ public final class ModelTest {
                 k -= OFTEN[which];
                 which++;
             }
-            drawn(CALLS[which]);
+            drawn(Calls.ALL[which]);
         }
     }
 
@@ -81,15 +76,15 @@ public final class ModelTest {
     }
 
     private int clock() {
-        return small(own.count(0));
+        return small(model.count(0));
     }
 
     private int doer() {
-        return small(own.count(1));
+        return small(model.count(1));
     }
 
     private int world() {
-        return small(1 << own.count(1));
+        return small(1 << model.count(1));
     }
 
     private int off() {
@@ -118,7 +113,7 @@ public final class ModelTest {
                 drawnText();
                 break;
             case "force":
-                call(name, small(own.count(3)));
+                call(name, small(model.count(3)));
                 break;
             case "at":
                 call(name, clock(), world(), small(3));
@@ -214,9 +209,9 @@ public final class ModelTest {
     private void drawnTellsBack() {
         int sheet = small(4);
         if (sheet >= 0 && sheet < 4 && random.nextInt(3) > 0) {
-            call("sheet", sheet, random.nextInt(3), own.count(0));
+            call("sheet", sheet, random.nextInt(3), model.count(0));
             int known = random.nextInt(4);
-            for (int c = 0; c < own.count(0); c++) {
+            for (int c = 0; c < model.count(0); c++) {
                 call("cell", sheet, c, random.nextInt(4) < known ? random.nextInt(2) : random.nextInt(8) - 3);
             }
         }
@@ -258,10 +253,10 @@ public final class ModelTest {
         for (int i = 0; i < text.length() && i < 170; i++) {
             call("feed", text.charAt(i));
         }
-        int was = own.count(3);
+        int was = model.count(3);
         call("text");
-        if (own.count(3) > was && random.nextInt(3) > 0) {
-            call("force", own.count(3) - 1);
+        if (model.count(3) > was && random.nextInt(3) > 0) {
+            call("force", model.count(3) - 1);
         }
     }
 
@@ -324,98 +319,18 @@ public final class ModelTest {
             return;
         }
         calls++;
-        long got = ofOwn(name, a);
+        long got = Calls.of(own, name, a);
         long due;
         try {
-            due = ofModel(name, a);
+            due = Calls.of(model, name, a);
             answered.merge(name, 1, Integer::sum);
         } catch (Model.Refused refused) {
             due = refused.answer;
         }
-        Deque<String> words = new ArrayDeque<>();
-        for (int v : a) {
-            words.add("" + v);
-        }
-        run.append("\n  ").append(name).append('(').append(String.join(", ", words)).append(") = ").append(got);
+        run.append("\n  ").append(Calls.told(name, a)).append(" = ").append(got);
         if (got != due) {
             wrong = true;
             run.append(", due is ").append(due);
-        }
-    }
-
-    private long ofOwn(String name, int[] a) {
-        PutOn p = own;
-        switch (name) {
-            case "clock": return p.clock(a[0], a[1]);
-            case "doer": return p.doer(a[0], a[1], a[2]);
-            case "set": return p.set(a[0], a[1], a[2]);
-            case "told": return p.told(a[0], a[1]);
-            case "feed": return p.feed(a[0]);
-            case "text": return p.text();
-            case "force": return p.force(a[0]);
-            case "at": return p.at(a[0], a[1], a[2]);
-            case "right": return p.right(a[0], a[1]);
-            case "world": return p.world(a[0]);
-            case "odds": return p.odds(a[0], a[1]);
-            case "time": return p.time(a[0]);
-            case "sure": return p.sure(a[0]);
-            case "look": return p.look();
-            case "fewest": return p.fewest();
-            case "ask": return p.ask();
-            case "say": return p.say(a[0]);
-            case "bad": return p.bad(a[0]);
-            case "late": return p.late(a[0]);
-            case "live": return p.live(a[0]);
-            case "tellsBack": return p.tellsBack(a[0], a[1]);
-            case "film": return p.film(a[0], a[1]);
-            case "drawn": return p.drawn(a[0]);
-            case "chance": return p.chance(a[0], a[1], a[2]);
-            case "image": return p.image();
-            case "back": return p.back();
-            case "count": return p.count(a[0]);
-            case "sheet": return p.sheet(a[0], a[1], a[2]);
-            case "cell": return p.cell(a[0], a[1], a[2]);
-            case "copy": return p.copy(a[0], a[1], a[2], a[3], a[4]);
-            case "clocks": return p.clocks(a[0], a[1], a[2], a[3]);
-            default: return p.taken(a[0], a[1]);
-        }
-    }
-
-    private long ofModel(String name, int[] a) {
-        Model m = model;
-        switch (name) {
-            case "clock": return m.clock(a[0], a[1]);
-            case "doer": return m.doer(a[0], a[1], a[2]);
-            case "set": return m.set(a[0], a[1], a[2]);
-            case "told": return m.told(a[0], a[1]);
-            case "feed": return m.feed(a[0]);
-            case "text": return m.text();
-            case "force": return m.force(a[0]);
-            case "at": return m.at(a[0], a[1], a[2]);
-            case "right": return m.right(a[0], a[1]);
-            case "world": return m.world(a[0]);
-            case "odds": return m.odds(a[0], a[1]);
-            case "time": return m.time(a[0]);
-            case "sure": return m.sure(a[0]);
-            case "look": return m.look();
-            case "fewest": return m.fewest();
-            case "ask": return m.ask();
-            case "say": return m.say(a[0]);
-            case "bad": return m.bad(a[0]);
-            case "late": return m.late(a[0]);
-            case "live": return m.live(a[0]);
-            case "tellsBack": return m.tellsBack(a[0], a[1]);
-            case "film": return m.film(a[0], a[1]);
-            case "drawn": return m.drawn(a[0]);
-            case "chance": return m.chance(a[0], a[1], a[2]);
-            case "image": return m.image();
-            case "back": return m.back();
-            case "count": return m.count(a[0]);
-            case "sheet": return m.sheet(a[0], a[1], a[2]);
-            case "cell": return m.cell(a[0], a[1], a[2]);
-            case "copy": return m.copy(a[0], a[1], a[2], a[3], a[4]);
-            case "clocks": return m.clocks(a[0], a[1], a[2], a[3]);
-            default: return m.taken(a[0], a[1]);
         }
     }
 }

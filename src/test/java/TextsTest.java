@@ -177,18 +177,18 @@ public final class TextsTest {
             p.force(i);
             DUE.is("came of text " + i, p.told(0, 7), i);
         }
-        // long ones, one behind the other: each has all the room that a tape has
+        // long ones, one behind the other: each has all the room that a tape has (512 calls feed three)
         PutOn q = new PutOn();
         q.clock(0, 0);
         q.doer(0, 0, 1);
-        for (int i = 1; i <= 5; i++) {
+        for (int i = 1; i <= 3; i++) {
             StringBuilder text = new StringBuilder("came " + i + ";adds " + i);
             for (int k = 0; k < 62; k++) {
                 text.append("+1");
             }
             DUE.is("long text " + i, Due.text(q, text.append(";minds " + i + ";").toString()), i);
         }
-        for (int i = 5; i >= 0; i--) {
+        for (int i = 3; i >= 0; i--) {
             q.force(i);
             DUE.is("came of long text " + i, q.told(0, 7), i == 0 ? 50 : i);
             DUE.is("adds of long text " + i, q.at(0, 1, 0), i == 0 ? 60 : 62 + i);

@@ -204,9 +204,9 @@ public final class ToldBackTest {
     }
 
     private static void chanceOfSeeds() {
-        PutOn p = three();
         for (int n = 1; n <= 20; n++) {
             for (int seed : new int[] {0, -9, Integer.MAX_VALUE - 3}) {
+                PutOn p = three();
                 int good = 0;
                 for (int i = 0; i < n; i++) {
                     good += p.right(drawnWorld(seed + i, 50, 50, 50), 0) == 7 ? 1 : 0;
@@ -219,6 +219,7 @@ public final class ToldBackTest {
                 DUE.is("chance(" + seed + ", " + n + ", 1)", p.chance(seed, n, 1), n / divisor);
             }
         }
+        PutOn p = three();
         for (int n : new int[] {0, -1, 21, Integer.MAX_VALUE, Integer.MIN_VALUE}) {
             DUE.is("chance(0, " + n + ", 0)", p.chance(0, n, 0), PutOn.NO);
         }
